@@ -24,7 +24,7 @@ public final class RandomRunsTest {
         for (int run = 0; run < SHORT_RUNS + LONG_RUNS; run++) {
             boolean isShort = run < SHORT_RUNS;
             // Trying integers is the plainer reading but can only be done for small limits.
-            boolean isSmall = run % 10 == 0;
+            boolean isSmall = run % 15 == 0;
             int widest = isSmall ? 1 : run % 3 == 0 ? 1000 : 3 + run % 20;
             int calls = isShort ? 20 + below(80) : MOST_CALLS;
             runCalls(run, calls, new Reading(isSmall), widest);
@@ -156,7 +156,9 @@ public final class RandomRunsTest {
         private List<int[]> clauses = new ArrayList<>();
         private final Deque<List<int[]>> saved = new ArrayDeque<>();
         private final int[] prices = new int[20];
+        // What was found for the differences and clauses as they are; null if they have changed.
         private Map<Integer, long[]> greatestOf = null;
+        private List<Integer> possible = null;
 
         Reading(boolean triesIntegers) {
             this.triesIntegers = triesIntegers;
@@ -171,6 +173,7 @@ public final class RandomRunsTest {
             }
             differences.add(new int[] {i, j, c});
             greatestOf = null;
+            possible = null;
             int atom = 4 + differences.size();
             prices[2 * atom] = 0;
             prices[2 * atom + 1] = 0;
@@ -187,6 +190,7 @@ public final class RandomRunsTest {
                 return -2;
             }
             clauses.add(literals);
+            possible = null;
             return clauses.size();
         }
 
@@ -206,6 +210,7 @@ public final class RandomRunsTest {
             clauses = saved.pop();
             differences = saved.pop();
             greatestOf = null;
+            possible = null;
             return level();
         }
 
@@ -298,6 +303,13 @@ public final class RandomRunsTest {
         }
 
         List<Integer> possible() {
+            if (possible == null) {
+                possible = findPossible();
+            }
+            return possible;
+        }
+
+        private List<Integer> findPossible() {
             List<Integer> found = new ArrayList<>();
             for (int pattern = 0; pattern < 1 << 5 + differences.size(); pattern++) {
                 boolean isPossible = greatestOf().containsKey(pattern >> 5);
@@ -357,6 +369,10 @@ public final class RandomRunsTest {
                 for (int v = 0; v < 5; v++) {
                     x[v] = rest % REACH;
                     rest /= REACH;
+                }
+                // The others only move such a point as a whole.
+                if (x[0] > 0 && x[1] > 0 && x[2] > 0 && x[3] > 0 && x[4] > 0) {
+                    continue;
                 }
                 int chosen = 0;
                 for (int d = 0; d < differences.size(); d++) {
