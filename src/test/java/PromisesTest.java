@@ -2,7 +2,6 @@
 public final class PromisesTest {
     private static final int REFUSED = -1, FULL = -2;
     private static final long NONE = 3000000000L, UNBOUNDED = 3000000001L;
-    private static final int[] WRONG_INTS = {-2, -3, 5, 6, Integer.MIN_VALUE, Integer.MAX_VALUE};
 
     private static int wrong = 0;
 
@@ -168,11 +167,10 @@ public final class PromisesTest {
 
     private static void check() {
         DifferenceDesk x = new DifferenceDesk();
-        for (int bad : WRONG_INTS) {
-            int literal = bad == 5 ? 10 : bad == 6 ? 11 : bad;
-            due("6: a = " + literal, x.check(literal, -1, -1), REFUSED);
-            due("6: b = " + literal, x.check(-1, literal, -1), REFUSED);
-            due("6: c = " + literal, x.check(-1, -1, literal), REFUSED);
+        for (int bad : new int[] {-2, -3, 10, 11, Integer.MIN_VALUE, Integer.MAX_VALUE}) {
+            due("6: a = " + bad, x.check(bad, -1, -1), REFUSED);
+            due("6: b = " + bad, x.check(-1, bad, -1), REFUSED);
+            due("6: c = " + bad, x.check(-1, -1, bad), REFUSED);
         }
         due("6: nothing asked", x.check(-1, -1, -1), 1);
         due("6: three yes", x.check(0, 4, 8), 1);
