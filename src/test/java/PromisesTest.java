@@ -36,6 +36,7 @@ public final class PromisesTest {
         size();
         refusedBeforeFull();
         objectsAreApart();
+        exampleOfTheReadme();
         System.out.println(wrong == 0 ? "all answers are as due" : wrong + " answers are not as due");
         if (wrong != 0) {
             System.exit(1);
@@ -543,5 +544,19 @@ public final class PromisesTest {
         due("1: another object is as it was", y.size(), 0);
         due("1: and has its own prices", y.price(0, 1), 0);
         due("1: and its own patterns", y.patterns(), 32);
+    }
+
+    private static void exampleOfTheReadme() {
+        DifferenceDesk desk = new DifferenceDesk();
+        int near = desk.difference(0, 1, 5);
+        due("README: the atom", near, 5);
+        due("README: it holds, or truth 0 does", desk.clause(2 * near, 0, -1, -1), 1);
+        due("README: truth 0 may be yes instead", desk.greatest(0, 1), UNBOUNDED);
+        due("README: push", desk.push(), 1);
+        due("README: truth 0 is no", desk.clause(1, -1, -1, -1), 2);
+        due("README: then the difference is bounded", desk.greatest(0, 1), 5);
+        due("README: then it is implied", desk.implied(2 * near), 1);
+        due("README: pop", desk.pop(), 0);
+        due("README: the last clause is gone", desk.size(), 9);
     }
 }
