@@ -25,8 +25,9 @@ import javax.tools.ToolProvider;
 // the test asks for more than the rules do, because the plainer form is easier to see: arrays are
 // made in the fields' initialisers alone, no local variable names an array, a constant is given as
 // a number or another constant, each loop is a for that counts up, and nothing is divided by
-// anything but a constant. That an index is looked at before it is used (rule 7) is left to the
-// tests that call the class.
+// anything but a constant. Two things it does not show: that an index is looked at before it is
+// used (rule 7), which is left to the tests that call the class; and that no method called in a
+// loop changes a field that bounds the loop (rule 8), which is left to reading.
 public final class LanguageTest {
     private static final Path PROGRAM = Path.of("src/main/java/DifferenceDesk.java");
     private static final int MOST_LINES = 60, MOST_PARAMETERS = 7, MOST_DEPTH = 6, MOST_FIELDS = 40;
